@@ -728,7 +728,9 @@ public final class HallCarrier {
         private int addCarrier(int cell, int load) {
             carrierCells[carriers] = cell;
             loads[carriers] = load;
-            Arrays.fill(sawAt, ALL_CELLS * carriers, ALL_CELLS * (carriers + 1), NEVER);
+            for (int there = 0; there < ALL_CELLS; there++) {
+                sawAt[ALL_CELLS * carriers + there] = NEVER;
+            }
             carriers++;
             return carriers - 1;
         }
@@ -910,7 +912,9 @@ public final class HallCarrier {
 
         private void measureFrom(int start, int cell, long free) {
             int row = MOST_ORDERS * start;
-            Arrays.fill(steps, row, row + MOST_ORDERS, UNKNOWN);
+            for (int o = 0; o < many; o++) {
+                steps[row + o] = UNKNOWN;
+            }
             long reached = 1L << cell;
             long before = 0;
             for (int n = 0; n < ALL_CELLS && reached != before; n++) {
