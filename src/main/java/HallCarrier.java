@@ -933,6 +933,10 @@ public final class HallCarrier {
          * The way of an order itself is as long as that from its end to where it is.
          */
         private void tryRows(int carrier, int start, int set, int row, int time, int lateness, int depth) {
+            // That carrier 0 serves all comes ahead of what is as late, so nothing so late is wanted.
+            if (lateness >= leastOf[(1 << many) - 1]) {
+                return;
+            }
             int place = SETS * carrier + set;
             if (lateness < leastOf[place]) {
                 leastOf[place] = lateness;
