@@ -1,22 +1,37 @@
+import java.util.Arrays;
+
 /** Counts answers that are not the ones that are due. */
 final class Due {
+    static final int BAD = -1, STATE = -2, FULL = -3, NONE = -9;
+    /** Cell numbers that no hall has, those among them that a shift or a mask would take for one. */
+    static final int[] NO_CELLS = {-1, 64, -8, -64, -55, 73, 256, Integer.MIN_VALUE, Integer.MAX_VALUE};
+
     private int checked = 0;
     private int wrong = 0;
+    private String sentence = "";
+
+    /** The document's words by which the next answers are due. */
+    void by(String words) {
+        sentence = words;
+    }
 
     void is(String call, long got, long want) {
         checked++;
         if (got != want) {
-            wrong++;
-            System.out.println(call + " answered " + got + ", due is " + want);
+            tellWrong(call + " answered " + got + ", due is " + want);
         }
     }
 
     void holds(String what, boolean so) {
         checked++;
         if (!so) {
-            wrong++;
-            System.out.println("does not hold: " + what);
+            tellWrong("does not hold: " + what);
         }
+    }
+
+    private void tellWrong(String what) {
+        wrong++;
+        System.out.println(sentence.isEmpty() ? what : what + " [" + sentence + "]");
     }
 
     void end() {
@@ -48,6 +63,13 @@ final class Due {
         HallCarrier x = new HallCarrier();
         tell(x, text);
         return x.hall();
+    }
+
+    /** A text of so many rows of so many floors. */
+    static String floors(int rows, int signs) {
+        String[] all = new String[rows];
+        Arrays.fill(all, ".".repeat(signs));
+        return String.join("/", all);
     }
 
     static long cells(int... cells) {
