@@ -177,6 +177,18 @@ public final class DoorsAndSightEdgesTest {
                 due.is("it stays open", x.count(8), 4);
             }
         }
+        for (int end = 0; end < 2; end++) {
+            HallCarrier y = Due.hallOf(".../..D/...");
+            y.door(0, 1);
+            due.is("the first of two", end == 0 ? y.order(10, 9, 0) : y.order(9, 10, 0), 0);
+            due.is("the second elsewhere", y.order(0, 18, 0), 1);
+            due.is("the first has an end there", y.door(0, 0), STATE);
+        }
+        HallCarrier z = Due.hallOf(".../..D/...");
+        z.door(0, 1);
+        z.person(0, 10);
+        z.person(0, 0);
+        due.is("the first of two is there", z.door(0, 0), STATE);
     }
 
     private void imagesHoldNoDoor() {

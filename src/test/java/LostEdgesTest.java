@@ -365,6 +365,12 @@ public final class LostEdgesTest {
 
     private void tellsOfFewLeft() {
         due.by("TELLS MOST ... after whose STEP (of those that are left)");
+        HallCarrier alone = Due.hallOf(".#/##");
+        due.is("a CELL with none FREE beside it", alone.tells(0), 0);
+        due.is("its LOOK is one", alone.tells(1), 1);
+        HallCarrier apart = Due.hallOf(".#../####");
+        // Up leaves all three: none, right, left.
+        due.is("one apart from two", apart.tells(1), 3);
         HallCarrier x = Due.hallOf("1...4/#####");
         x.look(2, 1);
         due.is("one is left: 0", x.tells(0), 0);

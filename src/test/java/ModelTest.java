@@ -5,6 +5,7 @@ import java.util.Random;
 /** Runs of calls by a fixed seed, each answer compared with the plain model's. */
 public final class ModelTest {
     private static final int RUNS = 700;
+    private static final int CROWDED_RUNS = 300;
     private static final int CALLS = 500;
     private static final int KINDS_OF_CALLS = 31;
     private static final int ORDERS_CALLS_A_RUN = 25;
@@ -16,6 +17,7 @@ public final class ModelTest {
     private int width = 2;
     private int height = 2;
     private int planned = 0;
+    private boolean crowded = false;
     private boolean differs = false;
 
     private ModelTest(long seed) {
@@ -24,8 +26,12 @@ public final class ModelTest {
 
     public static void main(String[] args) {
         int[] asked = new int[1];
-        for (int run = 0; run < RUNS; run++) {
+        for (int run = 0; run < RUNS + CROWDED_RUNS; run++) {
             ModelTest test = new ModelTest(run);
+            if (run >= RUNS) {
+                test.readHall();
+                test.crowd();
+            }
             if (!test.runAlike()) {
                 System.out.println("run with seed " + run);
                 System.exit(1);
@@ -37,7 +43,7 @@ public final class ModelTest {
 
     private boolean runAlike() {
         while (calls.size() < CALLS && !differs) {
-            if (calls.isEmpty() ? random.nextInt(20) != 0 : random.nextInt(120) == 0) {
+            if (!crowded && (calls.isEmpty() ? random.nextInt(20) != 0 : random.nextInt(120) == 0)) {
                 readHall();
                 furnish();
             } else {
@@ -155,6 +161,31 @@ public final class ModelTest {
         int bodies = random.nextInt(10);
         for (int i = 0; i < bodies; i++) {
             oneCall(5 + random.nextInt(2));
+        }
+    }
+
+    /** Brings all that has a limit near to it, so that the calls that follow come to it and are refused. */
+    private void crowd() {
+        crowded = true;
+        furnish();
+        for (int i = 0; i < 14; i++) {
+            oneCall(5);
+            oneCall(6);
+            oneCall(23);
+        }
+        for (int i = 0; i < 97; i++) {
+            int a = i & 1;
+            same("act(" + a + ", 4)", x.act(a, 4), model.act(a, 4));
+            if (i % 10 == 0) {
+                oneCall(12);
+            }
+        }
+        for (int i = 0; i < 19; i++) {
+            int n = 46 + random.nextInt(5);
+            same("tick(" + n + ")", x.tick(n), model.tick(n));
+        }
+        for (int i = 0; i < 9; i++) {
+            same("type(46, 8)", x.type(46L, 8), model.type(46L, 8));
         }
     }
 

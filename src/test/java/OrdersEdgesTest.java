@@ -27,11 +27,13 @@ public final class OrdersEdgesTest {
         t.theFirstRowOfTheSecond();
         t.onlyOneCarrier();
         t.planKeepsUp();
+        t.planIsMadeAnew();
         t.servedNoMore();
         t.servedsRefusals();
         t.imagesKeep();
         t.imagesKeepNothingElse();
         t.emptyAndFullImages();
+        t.whoIsOfWhichImage();
         t.keptOver();
         t.imagesRefusals();
         t.wouldBeOnAShutDoor();
@@ -368,6 +370,17 @@ public final class OrdersEdgesTest {
         due.is("a number, not how many", w.late(), 0);
         row(w, 0, 2);
         row(w, 1, 0, 1);
+        HallCarrier v = Due.hallOf(CORRIDOR);
+        v.carrier(0, 0);
+        v.carrier(7, 0);
+        v.order(7, 7, 200);
+        for (int i = 0; i < 5; i++) {
+            v.order(6, 6, 0);
+        }
+        // Order 0 is in time by either; 1 to 5 are late by one each by the second one.
+        due.is("62 is less than 63", v.late(), 5);
+        row(v, 0, 0);
+        row(v, 1, 1, 2, 3, 4, 5);
     }
 
     private void theFirstRow() {
@@ -462,6 +475,26 @@ public final class OrdersEdgesTest {
         due.is("back to one carrier", x.late(), 1 + 14);
         due.is("served by it", x.served(0, 0), 1);
         due.is("no second one", x.served(1, 0), BAD);
+    }
+
+    private void planIsMadeAnew() {
+        due.by("By that, the k-th ORDER of a CARRIER");
+        HallCarrier x = Due.hallOf(CORRIDOR);
+        x.carrier(0, 0);
+        x.carrier(6, 0);
+        x.order(7, 7, 5);
+        row(x, 0);
+        row(x, 1, 0);
+        x.act(0, 1);
+        row(x, 1, 0);
+        x.act(0, 1);
+        // From 2 the first one comes in time, so that the second one has none.
+        row(x, 0, 0);
+        row(x, 1);
+        Due.tell(x, CORRIDOR);
+        x.hall();
+        x.carrier(0, 0);
+        due.is("in another hall", x.served(0, 0), NONE);
     }
 
     private void servedNoMore() {
@@ -597,6 +630,36 @@ public final class OrdersEdgesTest {
         due.is("1001 are too many", x.tick(1), STATE);
         due.is("back(0)", x.back(0), 0);
         due.is("nobody", x.count(2), 0);
+    }
+
+    private void whoIsOfWhichImage() {
+        due.by("IMAGES 0, 1 keep PEOPLE, CARRIERS, what these SAW when");
+        HallCarrier x = Due.hallOf("..D./####");
+        x.keep(0);
+        x.person(2, 0);
+        x.person(1, 1);
+        x.carrier(1, 6);
+        x.tick(2);
+        x.carrier(3, 7);
+        x.tick(1);
+        x.keep(1);
+        x.back(0);
+        x.person(3, 1);
+        x.person(0, 3);
+        x.carrier(0, 2);
+        x.carrier(1, 4);
+        x.tick(9);
+        due.is("back(1)", x.back(1), 3);
+        int[][] bodies = {{0, 0, 0}, {1, 0, 1}, {0, 2, 2}, {1, 2, 1}, {0, 1, 1}, {1, 1, 3}, {0, 3, 6}, {1, 3, 7}};
+        for (int[] b : bodies) {
+            due.is("at(" + b[0] + ", " + b[1] + ")", x.at(b[0], b[1]), b[2]);
+        }
+        int[] first = {0, 0, 0, NONE};
+        int[] second = {NONE, NONE, 0, 0};
+        for (int cell = 0; cell < 4; cell++) {
+            due.is("age(0, " + cell + ")", x.age(0, cell), first[cell]);
+            due.is("age(1, " + cell + ")", x.age(1, cell), second[cell]);
+        }
     }
 
     private void keptOver() {

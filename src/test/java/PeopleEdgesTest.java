@@ -26,7 +26,10 @@ public final class PeopleEdgesTest {
         t.whoWalks();
         t.whoIsSudden();
         t.whoBlocks();
+        t.whoBlocksFromEachCell();
         t.whoBlocksAmongTwo();
+        t.whoBlocksWhenCarriersChange();
+        t.eachKindByItself();
         t.theHallsBorder();
         t.couldsRefusals();
         t.carriersAreNoWalls();
@@ -354,6 +357,60 @@ public final class PeopleEdgesTest {
         return set;
     }
 
+    private void whoBlocksFromEachCell() {
+        due.by("x or y differ less from those of some CARRIER than now (added)");
+        for (int carrier = 0; carrier < 64; carrier++) {
+            HallCarrier x = Due.hallOf(Due.floors(8, 8));
+            x.keep(0);
+            for (int person = 0; person < 64; person++) {
+                x.back(0);
+                x.carrier(carrier, 0);
+                x.person(BLOCKS, person);
+                int dx = Integer.signum(carrier % 8 - person % 8);
+                int dy = Integer.signum(carrier / 8 - person / 8);
+                long nearer = 1L << person | 1L << person + dx | 1L << person + 8 * dy;
+                due.is("from " + person + " to " + carrier, x.could(0, 1), nearer);
+            }
+        }
+    }
+
+    private void whoBlocksWhenCarriersChange() {
+        due.by("(CARRIERS staying where they are)");
+        HallCarrier x = Due.hallOf(CORRIDOR);
+        x.person(BLOCKS, 4);
+        x.keep(0);
+        x.carrier(0, 0);
+        due.is("to the left", x.could(0, 1), Due.cells(3, 4));
+        x.back(0);
+        due.is("no carrier any more", x.could(0, 20), Due.cells(4));
+        x.carrier(7, 0);
+        due.is("to the right", x.could(0, 1), Due.cells(4, 5));
+        Due.tell(x, CORRIDOR);
+        x.hall();
+        x.person(BLOCKS, 0);
+        due.is("in another hall", x.could(0, 20), Due.cells(0));
+    }
+
+    private void eachKindByItself() {
+        due.by("COULD BE of a PERSON ...: all CELLS where it can be by these");
+        HallCarrier x = Due.hallOf(CORRIDOR);
+        x.carrier(4, 0);
+        long[] oneTick = {Due.cells(0), Due.cells(6, 7), Due.cells(0, 1, 2), Due.cells(6, 7)};
+        int[] cells = {0, 7, 0, 7};
+        for (int kind = 0; kind < 4; kind++) {
+            x.person(kind, cells[kind]);
+        }
+        for (int before = 0; before < 4; before++) {
+            for (int kind = 0; kind < 4; kind++) {
+                x.could(before, 20);
+                due.is("kind " + kind + " asked behind " + before, x.could(kind, 1), oneTick[kind]);
+                x.anybody(0, 20);
+                due.is("kind " + kind + " asked behind all", x.could(kind, 1), oneTick[kind]);
+            }
+        }
+        due.is("all of them", x.anybody(0, 1), Due.cells(0, 1, 2, 6, 7));
+    }
+
     private void whoBlocksAmongTwo() {
         due.by("never away from all CARRIERS: ... less from those of some CARRIER than now");
         HallCarrier x = Due.hallOf(CORRIDOR);
@@ -438,6 +495,14 @@ public final class PeopleEdgesTest {
         x.person(SUDDEN, 0);
         due.is("who is sudden", x.anybody(0, 1), Due.cells(0, 1, 2, 3, 6, 7));
         due.is("all", x.anybody(0, 2), Due.cells(0, 1, 2, 3, 4, 5, 6, 7));
+        for (int kind = 0; kind < 4; kind++) {
+            HallCarrier two = Due.hallOf(CORRIDOR);
+            two.carrier(4, 0);
+            two.person(kind, 0);
+            two.person(kind, 7);
+            long[] oneTick = {Due.cells(0, 7), Due.cells(0, 1, 6, 7), Due.cells(0, 1, 2, 5, 6, 7), Due.cells(0, 1, 6, 7)};
+            due.is("two of kind " + kind, two.anybody(0, 1), oneTick[kind]);
+        }
         HallCarrier y = Due.hallOf(CORRIDOR);
         y.carrier(3, 0);
         for (int i = 0; i < 5; i++) {
