@@ -5,6 +5,9 @@ final class Due {
     static final int BAD = -1, STATE = -2, FULL = -3, NONE = -9;
     /** Cell numbers that no hall has, those among them that a shift or a mask would take for one. */
     static final int[] NO_CELLS = {-1, 64, -8, -64, -55, 73, 256, Integer.MIN_VALUE, Integer.MAX_VALUE};
+    static final String CORRIDOR = "......../########";
+    /** One way of 36 cells, from the first cell to 56. */
+    static final String WINDING = "......../#######./......../.#######/......../#######./......../.#######";
 
     private int checked = 0;
     private int wrong = 0;
@@ -70,6 +73,13 @@ final class Due {
         String[] all = new String[rows];
         Arrays.fill(all, ".".repeat(signs));
         return String.join("/", all);
+    }
+
+    /** Lets ticks come until a tick, by as few calls as can be. */
+    static void tickTo(HallCarrier x, int tick) {
+        for (int left = tick - x.count(6); left > 0; left -= Math.min(left, 50)) {
+            x.tick(Math.min(left, 50));
+        }
     }
 
     static long cells(int... cells) {

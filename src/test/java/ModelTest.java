@@ -6,7 +6,9 @@ import java.util.Random;
 public final class ModelTest {
     private static final int RUNS = 700;
     private static final int CROWDED_RUNS = 300;
-    private static final int CALLS = 500;
+    /** With those that only look where a person is, an object stays within the document's 512 calls. */
+    private static final int CALLS = 480;
+    private static final int LAST_HALL = 350;
     private static final int KINDS_OF_CALLS = 31;
     private static final int ORDERS_CALLS_A_RUN = 25;
 
@@ -43,7 +45,8 @@ public final class ModelTest {
 
     private boolean runAlike() {
         while (calls.size() < CALLS && !differs) {
-            if (!crowded && (calls.isEmpty() ? random.nextInt(20) != 0 : random.nextInt(120) == 0)) {
+            boolean another = calls.isEmpty() ? random.nextInt(20) != 0 : random.nextInt(90) == 0;
+            if (another && !crowded && calls.size() < LAST_HALL) {
                 readHall();
                 furnish();
             } else {

@@ -2,9 +2,8 @@
 public final class OrdersEdgesTest {
     private static final int BAD = Due.BAD, STATE = Due.STATE, FULL = Due.FULL, NONE = Due.NONE;
     private static final int[] NO_NUMBERS = {-1, -2, 2, 3, 6, 32, 64, Integer.MIN_VALUE, Integer.MAX_VALUE};
-    private static final String CORRIDOR = "......../########";
-    /** One way of 36 cells, from the first cell to 56. */
-    private static final String WINDING = "......../#######./......../.#######/......../#######./......../.#######";
+    private static final String CORRIDOR = Due.CORRIDOR;
+    private static final String WINDING = Due.WINDING;
     private final Due due = new Due();
 
     public static void main(String[] args) {
@@ -42,12 +41,6 @@ public final class OrdersEdgesTest {
         t.countsOfNone();
         t.traceStays();
         t.due.end();
-    }
-
-    private static void tickTo(HallCarrier x, int tick) {
-        for (int left = tick - x.count(6); left > 0; left -= Math.min(left, 50)) {
-            x.tick(Math.min(left, 50));
-        }
     }
 
     private void row(HallCarrier x, int carrier, int... orders) {
@@ -100,7 +93,7 @@ public final class OrdersEdgesTest {
         due.is("count(4)", x.count(4), 0);
         due.is("order(0, 0, 0)", x.order(0, 0, 0), 0);
         due.is("order(0, 0, 200)", x.order(0, 0, 200), 1);
-        tickTo(x, 300);
+        Due.tickTo(x, 300);
         due.is("due before now", x.order(0, 0, 200), 2);
     }
 
@@ -138,7 +131,7 @@ public final class OrdersEdgesTest {
         due.is("a carrier", x.late(), 0);
         due.is("served(0, 0)", x.served(0, 0), NONE);
         x.carrier(9, 0);
-        tickTo(x, 1000);
+        Due.tickTo(x, 1000);
         due.is("two carriers", x.late(), 0);
         due.is("served(1, 0)", x.served(1, 0), NONE);
         HallCarrier y = Due.hallOf(".#/#.");
@@ -225,11 +218,11 @@ public final class OrdersEdgesTest {
         HallCarrier x = new HallCarrier();
         x.carrier(0, 0);
         x.order(0, 0, 200);
-        tickTo(x, 200);
+        Due.tickTo(x, 200);
         due.is("at 200", x.late(), 0);
         x.tick(1);
         due.is("at 201", x.late(), 1);
-        tickTo(x, 1000);
+        Due.tickTo(x, 1000);
         due.is("at 1000", x.late(), 800);
         for (int i = 0; i < 5; i++) {
             x.order(0, 0, 0);
@@ -605,7 +598,7 @@ public final class OrdersEdgesTest {
         for (int i = 0; i < 100; i++) {
             x.act(i % 2, i % 5);
         }
-        tickTo(x, 1000);
+        Due.tickTo(x, 1000);
         due.is("keep(1) of all", x.keep(1), 1000);
         int[] none = {4, 0, 0, 0, 0, 0, 0, 0, 4};
         int[] all = {4, 0, 6, 2, 0, 100, 1000, 0, 4};
@@ -781,7 +774,7 @@ public final class OrdersEdgesTest {
         for (int i = 0; i < 100; i++) {
             x.act(0, 4);
         }
-        tickTo(x, 1000);
+        Due.tickTo(x, 1000);
         for (int i = 0; i < 10; i++) {
             x.type(0, 8);
         }

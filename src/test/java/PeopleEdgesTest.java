@@ -4,9 +4,8 @@ public final class PeopleEdgesTest {
     private static final int STANDS = 0, WALKS = 1, SUDDEN = 2, BLOCKS = 3;
     private static final int[] NO_TICKS = {-1, 21, -20, 22, 64, Integer.MIN_VALUE, Integer.MAX_VALUE};
     private static final int[] NO_NUMBERS = {-1, -2, 6, 7, 32, 64, Integer.MIN_VALUE, Integer.MAX_VALUE};
-    private static final String CORRIDOR = "......../########";
-    /** One way of 36 cells, from the first cell to 56. */
-    private static final String WINDING = "......../#######./......../.#######/......../#######./......../.#######";
+    private static final String CORRIDOR = Due.CORRIDOR;
+    private static final String WINDING = Due.WINDING;
     private final Due due = new Due();
 
     public static void main(String[] args) {

@@ -201,7 +201,6 @@ public final class TextEdgesTest {
         due.by("a sign by which a row has more than the first one (the first one more than 8)");
         stands("......../........", 16);
         faultAt(".........", 8);
-        faultAt(".........", 8);
         faultAt("........./.........", 8);
         faultAt("12345678D/12345678D", 8);
         faultAt(".".repeat(80), 8);

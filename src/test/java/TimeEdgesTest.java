@@ -3,7 +3,7 @@ public final class TimeEdgesTest {
     private static final int BAD = Due.BAD, STATE = Due.STATE, FULL = Due.FULL, NONE = Due.NONE;
     private static final int STANDS = 0, WALKS = 1, SUDDEN = 2, BLOCKS = 3;
     private static final int[] NO_NUMBERS = {-1, -2, 6, 7, 32, 64, Integer.MIN_VALUE, Integer.MAX_VALUE};
-    private static final String CORRIDOR = "......../########";
+    private static final String CORRIDOR = Due.CORRIDOR;
     private final Due due = new Due();
 
     public static void main(String[] args) {
@@ -380,17 +380,11 @@ public final class TimeEdgesTest {
         due.is("count(6)", x.count(6), 102);
     }
 
-    private static void tickTo(HallCarrier x, int tick) {
-        for (int left = tick - x.count(6); left > 0; left -= Math.min(left, 50)) {
-            x.tick(Math.min(left, 50));
-        }
-    }
-
     private void thousandTicks() {
         due.by("STATE: beyond 1000.");
         for (int n = 1; n <= 50; n++) {
             HallCarrier x = new HallCarrier();
-            tickTo(x, 1001 - n);
+            Due.tickTo(x, 1001 - n);
             due.is("to 1001 by " + n, x.tick(n), STATE);
             due.is("count(6)", x.count(6), 1001 - n);
             due.is("BAD is ahead of STATE", x.tick(51), BAD);
@@ -405,7 +399,7 @@ public final class TimeEdgesTest {
         }
         HallCarrier y = Due.hallOf("..D./####");
         y.carrier(0, 0);
-        tickTo(y, 1000);
+        Due.tickTo(y, 1000);
         y.door(0, 1);
         due.is("refused", y.tick(1), STATE);
         due.is("nobody looks by it", y.age(0, 3), NONE);
@@ -417,7 +411,7 @@ public final class TimeEdgesTest {
     private void ticksBehindBack() {
         due.by("IMAGES keep ... TICK; STATE: beyond 1000.");
         HallCarrier x = new HallCarrier();
-        tickTo(x, 999);
+        Due.tickTo(x, 999);
         x.keep(0);
         due.is("tick(1)", x.tick(1), 1000);
         x.keep(1);
@@ -436,7 +430,7 @@ public final class TimeEdgesTest {
         x.carrier(62, 0);
         x.carrier(0, 0);
         x.act(1, 0);
-        tickTo(x, 1000);
+        Due.tickTo(x, 1000);
         x.act(0, 1);
         x.act(0, 4);
         x.act(1, 2);
@@ -476,7 +470,7 @@ public final class TimeEdgesTest {
     private void agesAtFirst() {
         due.by("AGE of a CELL for a CARRIER: how many TICKS ago it SAW it last ... NONE: never");
         HallCarrier x = Due.hallOf("..#./..../###.");
-        tickTo(x, 3);
+        Due.tickTo(x, 3);
         x.carrier(0, 0);
         long seen = Due.cells(0, 1, 2, 8, 9, 16);
         for (int cell : new int[] {0, 1, 2, 3, 8, 9, 10, 11, 16, 17, 18, 19}) {
@@ -585,7 +579,7 @@ public final class TimeEdgesTest {
         x.door(0, 1);
         x.carrier(0, 0);
         x.door(0, 0);
-        tickTo(x, 1000);
+        Due.tickTo(x, 1000);
         due.is("1000 ago", x.age(0, 3), 1000);
         due.is("now", x.age(0, 2), 0);
         x.keep(0);
