@@ -488,6 +488,20 @@ public final class OrdersEdgesTest {
         x.hall();
         x.carrier(0, 0);
         due.is("in another hall", x.served(0, 0), NONE);
+        HallCarrier y = Due.hallOf(".#/#.");
+        y.carrier(0, 0);
+        y.carrier(9, 0);
+        for (int i = 0; i < 6; i++) {
+            y.order(0, 9, 0);
+        }
+        due.is("none can be come to", y.late(), STATE);
+        Due.tell(y, CORRIDOR);
+        y.hall();
+        y.carrier(0, 0);
+        y.order(1, 2, 1);
+        due.is("what could not be come to there is no matter here", y.late(), 1);
+        y.carrier(1, 0);
+        due.is("nor with two", y.late(), 0);
     }
 
     private void servedNoMore() {
