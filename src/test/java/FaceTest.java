@@ -22,7 +22,7 @@ public final class FaceTest {
         "int count(int)", "long trace()"};
     private static final String[] NEVER = {
         "\\bthrow\\b", "\\bthrows\\b", "\\btry\\b", "\\bcatch\\b", "\\bsynchronized\\b", "\\bassert\\b", "->", "::",
-        "\\bprotected\\b", "\\bpackage\\b", "\\bExact\\b", "\\bSystem\\.(?!arraycopy)", "\\bimport (?!java\\.util\\.Arrays;)",
+        "\\bprotected\\b", "\\bpackage\\b", "Exact\\b", "\\bSystem\\.(?!arraycopy)", "\\bimport (?!java\\.util\\.Arrays;)",
         "\\bArrays\\.(?!fill\\b|copyOf\\b|copyOfRange\\b)", "\\bLong\\.(?!bitCount\\b)", "\\bMath\\.(?!max\\b|min\\b|abs\\b)"};
 
     private final Due due = new Due();
